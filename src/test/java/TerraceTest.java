@@ -1,0 +1,340 @@
+/** Promises 1 to 5: a new object, the tape, texts and their faults. */
+public final class TerraceTest {
+    private static final TestHelp T = new TestHelp();
+    private static final String NURSE = "nurse kings 1 sleeps 5;";
+    private static final String PIECES = NURSE + "piece a begins;piece b ends;";
+    private static final String HOUSE = PIECES + "house h at 5 from 3 to 4;";
+
+    public static void main(String[] args) {
+        aNewObject();
+        feeding();
+        reading();
+        refusedNumbers();
+        forms();
+        endings();
+        names();
+        repeats();
+        bounds();
+        many();
+        lacks();
+        theLeftmost();
+        aFaultLeavesTheTerrace();
+        whereAndFault();
+        T.end();
+    }
+
+    private static void fault(String text, int number, int place) {
+        TaleShares x = new TaleShares();
+        T.refused(3, text, x, TestHelp.tell(x, text), 4);
+        T.check(4, text + " fault", x.fault(), number);
+        T.check(5, text + " where", x.where(), place);
+    }
+
+    /** The text is right as far as this part, which stands at the fault's place. */
+    private static void faultAt(String ahead, String part, int number) {
+        fault(ahead + part, number, ahead.length());
+    }
+
+    private static void sound(String text, int pieces) {
+        TaleShares x = new TaleShares();
+        T.due(3, text, x, TestHelp.tell(x, text), pieces);
+        T.check(4, text + " fault", x.fault(), 0);
+        T.check(5, text + " where", x.where(), -1);
+    }
+
+    private static void aNewObject() {
+        TaleShares x = new TaleShares();
+        T.check(1, "trouble", x.trouble(), 0);
+        T.check(1, "fault", x.fault(), 0);
+        T.check(1, "where", x.where(), -1);
+        for (int what = 0; what <= 11; what++) {
+            T.check(1, "size " + what, x.size(what), 0);
+        }
+        T.refused(1, "known", x, x.known(), 1);
+        T.refused(1, "tales(0)", x, x.tales(0), 1);
+        T.refused(1, "piece(0, 0)", x, x.piece(0, 0), 1);
+        T.refused(1, "house(0, 0)", x, x.house(0, 0), 1);
+    }
+
+    private static void feeding() {
+        TaleShares x = new TaleShares();
+        for (int k = 1; k <= 45; k++) {
+            T.check(2, "feed", x.feed(0, -1, 2, Integer.MIN_VALUE, 4), 20 * k);
+        }
+        T.check(2, "feed beyond 900", x.feed(0, 0, 0, 0, 0), -1);
+        T.check(2, "size(11)", x.size(11), 900);
+        x.known();
+        T.check(2, "feed beyond 900", x.feed(0, 0, 0, 0, 0), -1);
+        T.check(51, "feed leaves the trouble", x.trouble(), 1);
+        T.refused(3, "terrace(901)", x, x.terrace(901), 2);
+        T.check(3, "the tape stays", x.size(11), 900);
+        T.refused(3, "terrace(900)", x, x.terrace(900), 4);
+        T.check(3, "the tape is empty", x.size(11), 0);
+        T.check(2, "feed", x.feed(0, 0, 0, 0, 0), 20);
+        T.check(51, "feed leaves the trouble", x.trouble(), 4);
+        T.check(5, "feed leaves where", x.where(), 0);
+        StringBuilder full = new StringBuilder(PIECES.substring(0, PIECES.length() - 1));
+        while (full.length() < 900) {
+            full.insert(NURSE.length(), ' ');
+        }
+        sound(full.toString(), 2);
+    }
+
+    private static void reading() {
+        sound(TestHelp.BASE, 5);
+        sound("nurse kings 0 sleeps 0;piece a plain", 1);
+        sound("  nurse  kings 004sleeps100 ; piece a begins;piece kings king;follows a kings;"
+                + "house begins at 99 from 0 to 23;heard begins a;silent begins;mixed a , kings,a  ", 2);
+        sound(NURSE + "piece abcdefgh begins;piece abcdefgi ends;piece abcdefg king", 3);
+        sound(NURSE + "house h at 0 from 23 to 23;piece a ends;heard h a", 1);
+        TaleShares x = new TaleShares();
+        TestHelp.feed(x, PIECES + "and more");
+        T.due(3, "only the first bytes", x, x.terrace(PIECES.length() - 1), 2);
+        T.check(3, "the tape is empty", x.size(11), 0);
+        x = TestHelp.of(TestHelp.BASE);
+        x.learn(0, 4);
+        x.seed(9);
+        x.image();
+        T.due(3, "another terrace", x, TestHelp.tell(x, HOUSE + "heard h b"), 2);
+        T.check(3, "houses KNOW what they heard", x.house(0, 3), 2);
+        T.check(3, "SEED", x.size(8), 0);
+        T.check(3, "nothing to undo", x.size(9), 0);
+        T.check(3, "no IMAGES", x.size(10), 0);
+        T.check(3, "no follows of the other", x.piece(0, 1), 0);
+        T.check(3, "no mixed row of the other", x.size(7), 0);
+        T.check(3, "no silent one of the other", x.size(6), 0);
+        T.check(3, "no TALES of the other", x.tales(3), 0);
+        T.refused(3, "no image to go back to", x, x.back(0), 1);
+        T.refused(3, "nothing to undo", x, x.undo(), 6);
+    }
+
+    private static void refusedNumbers() {
+        TaleShares x = new TaleShares();
+        T.refused(3, "terrace(-1)", x, x.terrace(-1), 2);
+        T.refused(3, "terrace(1)", x, x.terrace(1), 2);
+        T.check(5, "where", x.where(), -1);
+        TestHelp.feed(x, PIECES);
+        int size = x.size(11);
+        T.refused(3, "terrace(MIN)", x, x.terrace(Integer.MIN_VALUE), 2);
+        T.refused(3, "terrace(MAX)", x, x.terrace(Integer.MAX_VALUE), 2);
+        T.refused(3, "one too many", x, x.terrace(size + 1), 2);
+        T.check(3, "the tape stays", x.size(11), size);
+        T.due(3, "then it is read", x, x.terrace(PIECES.length() - 1), 2);
+    }
+
+    private static void forms() {
+        faultAt("", "odd", 1);
+        faultAt("", "kings 1", 1);
+        faultAt("  ", "5", 1);
+        faultAt("", ";", 1);
+        faultAt("", ",", 1);
+        faultAt("", "Nurse", 1);
+        faultAt("nurse", "\tkings", 1);
+        faultAt("nurse ", "king 1", 1);
+        faultAt("nurse kings ", "sleeps", 1);
+        faultAt("nurse kings ", "0001 sleeps 5", 1);
+        faultAt("nurse kings 1 ", "sleep 5", 1);
+        faultAt("nurse kings 1 ", "; sleeps 5", 1);
+        faultAt(NURSE, "piecea begins", 1);
+        faultAt(NURSE, ";piece a begins", 1);
+        faultAt(NURSE + "piece ", "abcdefghi begins", 1);
+        faultAt(NURSE + "piece ", "7 begins", 1);
+        faultAt(NURSE + "piece a ", "begin", 1);
+        faultAt(NURSE + "piece a ", "piece", 1);
+        faultAt(NURSE + "piece a ", "plains", 1);
+        faultAt(NURSE + "piece a king", "-", 1);
+        faultAt(NURSE + "piece a king", (char) 233 + "", 1);
+        faultAt(NURSE + "piece a king", (char) 0 + "", 1);
+        faultAt(NURSE + "piece a king ", "king", 1);
+        faultAt(NURSE + "piece a king ", ", piece b king", 1);
+        for (String word : "nurse piece follows house heard silent mixed".split(" ")) {
+            faultAt(NURSE + "piece ", word + " begins", 1);
+            faultAt(NURSE + "house ", word + " at 5", 1);
+            faultAt(PIECES + "follows ", word, 1);
+            faultAt(PIECES + "follows a ", word, 1);
+            faultAt(HOUSE + "heard ", word, 1);
+            faultAt(HOUSE + "heard h ", word, 1);
+            faultAt(HOUSE + "silent ", word, 1);
+            faultAt(HOUSE + "mixed a,", word, 1);
+        }
+        faultAt(PIECES + "house h ", "in 5", 1);
+        faultAt(PIECES + "house h at ", "x", 1);
+        faultAt(PIECES + "house h at 5 ", "to 5", 1);
+        faultAt(PIECES + "house h at 5 from 5 ", "at 5", 1);
+        faultAt(PIECES + "house h at 5 from 5 to ", "1000", 1);
+        faultAt(PIECES + "follows a b ", "a", 1);
+        faultAt(HOUSE + "silent h", ",h", 1);
+        faultAt(HOUSE + "mixed ", ",a", 1);
+        faultAt(HOUSE + "mixed a ", "b", 1);
+        faultAt(HOUSE + "mixed a, ", ",b", 1);
+    }
+
+    private static void endings() {
+        fault("", 1, 0);
+        fault("     ", 1, 5);
+        fault("nurse", 1, 5);
+        fault("nurse kings 1 sleeps  ", 1, 22);
+        for (String text : new String[] {NURSE, NURSE + "piece", NURSE + "piece a", PIECES,
+            PIECES + "follows", PIECES + "follows a", PIECES + "house", PIECES + "house g at 5 from",
+            PIECES + "house g at 5 from 6 to", HOUSE + "heard", HOUSE + "heard h", HOUSE + "silent",
+            HOUSE + "mixed", HOUSE + "mixed a,"}) {
+            fault(text, 1, text.length());
+        }
+    }
+
+    private static void names() {
+        faultAt(PIECES + "follows ", "c b", 2);
+        faultAt(PIECES + "follows a ", "c", 2);
+        faultAt(HOUSE + "follows ", "h a", 2);
+        faultAt(HOUSE + "follows a ", "h", 2);
+        faultAt(HOUSE + "follows a ", "abcdefgh", 2);
+        faultAt(HOUSE + "heard ", "g a", 2);
+        faultAt(HOUSE + "heard ", "a a", 2);
+        faultAt(HOUSE + "heard h ", "h", 2);
+        faultAt(HOUSE + "heard h ", "aa", 2);
+        faultAt(HOUSE + "silent ", "a", 2);
+        faultAt(HOUSE + "silent ", "hh", 2);
+        faultAt(HOUSE + "mixed ", "h", 2);
+        faultAt(HOUSE + "mixed a,b,", "c", 2);
+        faultAt(HOUSE + "mixed a,a,a,a,a,a,", "c", 2);
+        faultAt(HOUSE + "follows ", "kings a", 2);
+        faultAt(NURSE + "follows ", "a b;piece a begins;piece b ends", 2);
+    }
+
+    private static void repeats() {
+        faultAt(HOUSE + "piece ", "a begins", 3);
+        faultAt(HOUSE + "piece ", "h begins", 3);
+        faultAt(HOUSE + "house ", "h at 5 from 3 to 4", 3);
+        faultAt(HOUSE + "house ", "b at 5 from 3 to 4", 3);
+        faultAt(HOUSE + "follows a ", "a", 3);
+        faultAt(HOUSE + "follows a b;follows a ", "b", 3);
+        sound(HOUSE + "follows a b;follows b a", 2);
+        faultAt(HOUSE + "heard h b;heard h a;heard h ", "b", 3);
+        faultAt(HOUSE + "silent h;silent ", "h", 3);
+        faultAt(HOUSE, "nurse kings 1 sleeps 5", 3);
+        faultAt(NURSE, "nurse", 3);
+        faultAt(HOUSE + "mixed a;", "mixed b", 3);
+    }
+
+    private static void bounds() {
+        faultAt("nurse kings ", "5 sleeps 5", 4);
+        faultAt("nurse kings 4 sleeps ", "101", 4);
+        faultAt(PIECES + "house h at ", "100 from 3 to 4", 4);
+        faultAt(PIECES + "house h at 5 from ", "24 to 24", 4);
+        faultAt(PIECES + "house h at 5 from 23 to ", "24", 4);
+        faultAt(PIECES + "house h at 5 from 5 to ", "4", 4);
+        faultAt(PIECES + "house h at 5 from 0 to ", "999", 4);
+        sound("nurse kings 4 sleeps 100;piece a begins;house h at 99 from 0 to 23", 1);
+        sound(PIECES + "house h at 0 from 23 to 23", 2);
+    }
+
+    private static String lines(String line, int many) {
+        StringBuilder text = new StringBuilder();
+        for (int i = 0; i < many; i++) {
+            text.append(line.replace('#', (char) ('p' + i))).append(';');
+        }
+        return text.toString();
+    }
+
+    private static void many() {
+        String eight = NURSE + lines("piece # plain", 8);
+        sound(eight.substring(0, eight.length() - 1), 8);
+        faultAt(eight, "piece z plain", 5);
+        faultAt(eight, "piece", 5);
+        String five = PIECES + lines("house # at 1 from 1 to 1", 5);
+        sound(five.substring(0, five.length() - 1), 2);
+        faultAt(five, "house z at 1 from 1 to 1", 5);
+        String pairs = "";
+        int told = 0;
+        for (char first = 'p'; first < 'x' && told < 14; first++) {
+            for (char second = 'p'; second < 'x' && told < 14; second++) {
+                if (first != second) {
+                    pairs += "follows " + first + " " + second + ";";
+                    told++;
+                }
+            }
+        }
+        sound(eight + pairs + "house h at 0 from 0 to 0", 8);
+        faultAt(eight + pairs, "follows w p", 5);
+        faultAt(eight + pairs, "follows", 5);
+        String heard = eight + "house g at 0 from 0 to 0;house h at 0 from 0 to 0;"
+                + lines("heard g #", 7) + lines("heard h #", 7);
+        sound(heard.substring(0, heard.length() - 1), 8);
+        faultAt(heard, "heard h w", 5);
+        faultAt(heard, "heard", 5);
+        sound(HOUSE + "mixed a,b,a,b,a,b", 2);
+        faultAt(HOUSE + "mixed a,a,a,a,a,a,", "a", 5);
+        faultAt(HOUSE + "mixed a,a,a,a,a,a,", "b,b", 5);
+        faultAt(HOUSE + "mixed a,a,a,a,a,a,", "nurse", 1);
+        faultAt(HOUSE + "mixed a,a,a,a,a,a,", ",", 1);
+    }
+
+    private static void lacks() {
+        faultAt(" ", "piece a begins", 6);
+        faultAt("", "follows a b", 6);
+        faultAt("", "house h at 5 from 3 to 4", 6);
+        faultAt("", "heard h a", 6);
+        faultAt("", "silent h", 6);
+        faultAt("", "mixed a", 6);
+        faultAt("", "mixed", 6);
+        faultAt("", "piece a begins;nurse kings 1 sleeps 5", 6);
+        fault("nurse kings 1 sleeps 5", 6, 22);
+        fault("nurse kings 1 sleeps 5   ", 6, 25);
+        String houses = NURSE + "house h at 5 from 3 to 4;silent h";
+        fault(houses, 6, houses.length());
+    }
+
+    private static void theLeftmost() {
+        faultAt(NURSE + "house h at ", "100 from 24 to ?;nurse", 4);
+        faultAt(PIECES + "follows ", "c c;piece a begins", 2);
+        faultAt(PIECES, "?;follows c c", 1);
+        faultAt(HOUSE + "mixed a;", "mixed ?", 3);
+        faultAt("", "mixed a;odd", 6);
+    }
+
+    private static void aFaultLeavesTheTerrace() {
+        TaleShares x = TestHelp.of(TestHelp.BASE);
+        x.learn(0, 4);
+        x.seed(7);
+        x.image();
+        T.refused(3, "a faulty text", x, TestHelp.tell(x, HOUSE + "silent h;follows a b;mixed b;odd"), 4);
+        T.check(3, "the tape is empty", x.size(11), 0);
+        int[] sizes = {1, 50, 5, 7, 3, 5, 1, 4, 7, 1, 1, 0};
+        for (int what = 0; what < sizes.length; what++) {
+            T.check(3, "size " + what, x.size(what), sizes[what]);
+        }
+        T.check(3, "TALES", x.tales(31), 3);
+        T.check(3, "places", x.house(1, 0), 30);
+        T.check(3, "KNOWS", x.house(0, 3), 19);
+        T.check(3, "SLIPS", x.slips(), 1);
+        T.due(3, "undo", x, x.undo(), true);
+        T.check(3, "KNOWS", x.house(0, 3), 3);
+        T.due(3, "a sound one", x, TestHelp.tell(x, PIECES + "follows a b"), 2);
+        T.check(3, "houses", x.size(4), 0);
+    }
+
+    private static void whereAndFault() {
+        TaleShares x = new TaleShares();
+        TestHelp.tell(x, PIECES + "odd");
+        int place = PIECES.length();
+        T.check(5, "where", x.where(), place);
+        x.fault();
+        x.size(3);
+        x.trouble();
+        x.feed(0, 0, 0, 0, 0);
+        T.check(5, "where behind calls that can't be refused", x.where(), place);
+        T.refused(5, "known", x, x.known(), 1);
+        T.check(5, "where behind another refusal", x.where(), -1);
+        T.check(4, "fault", x.fault(), 1);
+        T.refused(4, "terrace(99)", x, x.terrace(99), 2);
+        T.check(4, "fault behind one refused by 2", x.fault(), 1);
+        T.check(5, "where", x.where(), -1);
+        x = TestHelp.of(PIECES + "mixed a");
+        TestHelp.tell(x, "odd");
+        T.check(5, "where", x.where(), 0);
+        x.known();
+        T.check(5, "where behind a call not refused", x.where(), -1);
+        TestHelp.tell(x, PIECES + "mixed a");
+        T.check(4, "fault behind a sound text", x.fault(), 0);
+    }
+}
