@@ -981,12 +981,12 @@ public final class TaleShares {
             if (!passFirstWord(false, told.follows >= MOST_FOLLOWS)) {
                 return false;
             }
-            int first = pieceHere();
+            int first = nameHere(pieceNames, told.pieces);
             if (first == NONE) {
                 return false;
             }
             step();
-            int second = pieceHere();
+            int second = nameHere(pieceNames, told.pieces);
             if (second == NONE) {
                 return false;
             }
@@ -1026,12 +1026,12 @@ public final class TaleShares {
             if (!passFirstWord(false, told.heardLines >= MOST_HEARD)) {
                 return false;
             }
-            int h = houseHere();
+            int h = nameHere(houseNames, told.houses);
             if (h == NONE) {
                 return false;
             }
             step();
-            int p = pieceHere();
+            int p = nameHere(pieceNames, told.pieces);
             if (p == NONE) {
                 return false;
             }
@@ -1048,7 +1048,7 @@ public final class TaleShares {
             if (!passFirstWord(false, false)) {
                 return false;
             }
-            int h = houseHere();
+            int h = nameHere(houseNames, told.houses);
             if (h == NONE) {
                 return false;
             }
@@ -1065,7 +1065,7 @@ public final class TaleShares {
                 return false;
             }
             for (int i = 0; i <= MOST_MIXED; i++) {
-                int p = pieceHere();
+                int p = nameHere(pieceNames, told.pieces);
                 if (p == NONE) {
                     return false;
                 }
@@ -1135,14 +1135,7 @@ public final class TaleShares {
             return !old || fail(AGAIN);
         }
 
-        private int pieceHere() {
-            return nameHere(pieceNames, told.pieces);
-        }
-
-        private int houseHere() {
-            return nameHere(houseNames, told.houses);
-        }
-
+        /** Which of these NAMES the TOKEN at hand is; NONE, and a FAULT, if it is none. */
         private int nameHere(long[] names, int many) {
             if (!isName()) {
                 fail(FORM);
