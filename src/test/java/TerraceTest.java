@@ -19,6 +19,9 @@ public final class TerraceTest {
         lacks();
         theLeftmost();
         aFaultLeavesTheTerrace();
+        wordsLetterByLetter();
+        cutWithinTokens();
+        nothingIsLeftOfOtherTexts();
         whereAndFault();
         T.end();
     }
@@ -311,6 +314,58 @@ public final class TerraceTest {
         T.check(3, "KNOWS", x.house(0, 3), 3);
         T.due(3, "a sound one", x, TestHelp.tell(x, PIECES + "follows a b"), 2);
         T.check(3, "houses", x.size(4), 0);
+    }
+
+    /** Each WORD of the form with one letter changed, left out or put behind it. */
+    private static void wordsLetterByLetter() {
+        String text = NURSE + "piece a begins;piece b plain;piece c king;piece d ends;follows a b;"
+                + "house h at 5 from 3 to 4;heard h a;silent h;mixed a";
+        sound(text, 4);
+        java.util.regex.Matcher words = java.util.regex.Pattern.compile("[a-z]{2,}").matcher(text);
+        while (words.find()) {
+            String ahead = text.substring(0, words.start());
+            String word = words.group();
+            String behind = text.substring(words.end());
+            for (int i = 0; i < word.length(); i++) {
+                faultAt(ahead, word.substring(0, i) + "q" + word.substring(i + 1) + behind, 1);
+                faultAt(ahead, word.substring(0, i) + word.substring(i + 1) + behind, 1);
+            }
+            faultAt(ahead, word + "q" + behind, 1);
+        }
+    }
+
+    /** What stands on the tape behind the n bytes isn't read. */
+    private static void cutWithinTokens() {
+        TaleShares x = new TaleShares();
+        TestHelp.feed(x, NURSE + "piece a king;house h at 123 from 3 to 4");
+        T.refused(3, "cut", x, x.terrace((NURSE + "piece a king;house h at 12").length()), 4);
+        T.check(4, "cut in a WHOLE", x.fault(), 1);
+        TestHelp.feed(x, NURSE + "piece a kings");
+        T.due(3, "cut in a WORD", x, x.terrace((NURSE + "piece a king").length()), 1);
+        TestHelp.feed(x, NURSE + "piece a king;house h at 5 from 3 to 45");
+        T.due(3, "cut in a WHOLE", x, x.terrace((NURSE + "piece a king;house h at 5 from 3 to 4")
+                .length()), 1);
+        T.check(3, "to", x.house(0, 2), 4);
+    }
+
+    private static void nothingIsLeftOfOtherTexts() {
+        TaleShares x = new TaleShares();
+        String full = HOUSE + "house g at 7 from 1 to 2;heard h a;heard g a;heard g b;silent h;silent g;"
+                + "follows a b;follows b a;mixed a,b";
+        for (int k = 0; k < 3; k++) {
+            T.due(3, "a full one", x, TestHelp.tell(x, full), 2);
+            T.refused(3, "a faulty one", x, TestHelp.tell(x, full + ";odd"), 4);
+            T.due(3, "a plain one", x, TestHelp.tell(x, HOUSE + "house g at 7 from 1 to 2"), 2);
+            for (int h = 0; h < 2; h++) {
+                T.check(3, "KNOWS", x.house(h, 3), 0);
+                T.check(3, "silent", x.house(h, 4), 0);
+                T.check(3, "follows", x.piece(h, 1), 0);
+            }
+            T.check(3, "follows", x.size(3), 0);
+            T.check(3, "heard", x.size(5), 0);
+            T.check(3, "mixed", x.size(7), 0);
+            T.check(3, "TALES", x.tales(3), 0);
+        }
     }
 
     private static void whereAndFault() {
