@@ -43,7 +43,6 @@ public final class TaleShares {
     private static final int NOT_SO = 5;
     private static final int THERE_IS_NONE = 6;
 
-    private final byte[] tape;
     private final Reader reader;
     private final Tales tales;
     private final Park park;
@@ -52,19 +51,12 @@ public final class TaleShares {
     private final Evening evening;
     private final Now now;
     private Terrace terrace;
-    /** The next text is read into this one, so that a faulty text leaves the TERRACE alone. */
-    private Terrace spare;
     private boolean standing;
-    private int taped;
     private int trouble;
-    private int fault;
-    private int faultPlace;
 
     public TaleShares() {
-        tape = new byte[TAPE_BYTES];
         terrace = new Terrace();
-        spare = new Terrace();
-        reader = new Reader(tape, spare);
+        reader = new Reader();
         tales = new Tales();
         park = new Park();
         timetable = new Timetable();
@@ -76,40 +68,25 @@ public final class TaleShares {
     // ---- the terrace
 
     public int feed(int a, int b, int c, int d, int e) {
-        if (taped + FED_BYTES > tape.length) {
+        if (reader.taped + FED_BYTES > TAPE_BYTES) {
             return NONE;
         }
-        putFour(a);
-        putFour(b);
-        putFour(c);
-        putFour(d);
-        putFour(e);
-        return taped;
-    }
-
-    private void putFour(int four) {
-        for (int shift = 24; shift >= 0; shift -= 8) {
-            if (taped < tape.length) {
-                tape[taped] = (byte) (four >> shift);
-                taped++;
-            }
-        }
+        reader.takeFour(a);
+        reader.takeFour(b);
+        reader.takeFour(c);
+        reader.takeFour(d);
+        reader.takeFour(e);
+        return reader.taped;
     }
 
     public int terrace(int n) {
-        if (n < 0 || n > taped) {
+        if (n < 0 || n > reader.taped) {
             return refuse(NUMBER);
         }
-        boolean sound = reader.reads(n, spare);
-        taped = 0;
-        fault = reader.fault;
-        if (!sound) {
-            faultPlace = reader.place;
+        if (!reader.reads(n)) {
             return refuse(FAULTY);
         }
-        Terrace old = terrace;
-        terrace = spare;
-        spare = old;
+        terrace = reader.changeFor(terrace);
         standing = true;
         tales.gather(terrace);
         park.open(terrace);
@@ -120,11 +97,11 @@ public final class TaleShares {
     }
 
     public int fault() {
-        return fault;
+        return reader.fault;
     }
 
     public int where() {
-        return trouble == FAULTY ? faultPlace : NONE;
+        return trouble == FAULTY ? reader.place : NONE;
     }
 
     // ---- now
@@ -643,7 +620,7 @@ public final class TaleShares {
             case 10:
                 return now.imageMany;
             case 11:
-                return taped;
+                return reader.taped;
             default:
                 return NONE;
         }
@@ -778,7 +755,7 @@ public final class TaleShares {
         }
     }
 
-    /** Reads a text into a Terrace, up to its first FAULT. */
+    /** THE TAPE; reads a text on it into a Terrace, up to its first FAULT. */
     private static final class Reader {
         private static final int FORM = 1;
         private static final int UNTOLD = 2;
@@ -800,7 +777,8 @@ public final class TaleShares {
         int fault;
         /** Where the TOKEN at hand begins; behind a FAULT, the FAULT's place. */
         int place;
-        private final byte[] text;
+        int taped;
+        private final byte[] text = new byte[TAPE_BYTES];
         private int length;
         private int behind;
         private int sort;
@@ -808,17 +786,29 @@ public final class TaleShares {
         /** The WORD at hand, five bits a letter, so that NAMES are compared as numbers. */
         private long letters;
         private boolean nursed;
-        private Terrace told;
+        /** Never the one that stands, so that a faulty text leaves the TERRACE alone. */
+        private Terrace told = new Terrace();
         private final long[] pieceNames = new long[MOST_PIECES];
         private final long[] houseNames = new long[MOST_HOUSES];
 
-        Reader(byte[] tape, Terrace first) {
-            text = tape;
-            told = first;
+        void takeFour(int four) {
+            for (int shift = 24; shift >= 0; shift -= 8) {
+                if (taped < text.length) {
+                    text[taped] = (byte) (four >> shift);
+                    taped++;
+                }
+            }
         }
 
-        boolean reads(int bytes, Terrace into) {
-            told = into;
+        /** What was read last, for one that may be read into next. */
+        Terrace changeFor(Terrace old) {
+            Terrace read = told;
+            told = old;
+            return read;
+        }
+
+        boolean reads(int bytes) {
+            taped = 0;
             told.clear();
             length = Math.min(bytes, text.length);
             behind = 0;
