@@ -1,9 +1,9 @@
 /** Promises 1 to 5: a new object, the tape, texts and their faults. */
 public final class TerraceTest {
     private static final TestHelp T = new TestHelp();
-    private static final String NURSE = "nurse kings 1 sleeps 5;";
-    private static final String PIECES = NURSE + "piece a begins;piece b ends;";
-    private static final String HOUSE = PIECES + "house h at 5 from 3 to 4;";
+    private static final String NURSE = TestHelp.NURSE;
+    private static final String PIECES = TestHelp.PIECES;
+    private static final String HOUSE = TestHelp.HOUSE;
 
     public static void main(String[] args) {
         aNewObject();
@@ -24,25 +24,6 @@ public final class TerraceTest {
         nothingIsLeftOfOtherTexts();
         whereAndFault();
         T.end();
-    }
-
-    private static void fault(String text, int number, int place) {
-        TaleShares x = new TaleShares();
-        T.refused(3, text, x, TestHelp.tell(x, text), 4);
-        T.check(4, text + " fault", x.fault(), number);
-        T.check(5, text + " where", x.where(), place);
-    }
-
-    /** The text is right as far as this part, which stands at the fault's place. */
-    private static void faultAt(String ahead, String part, int number) {
-        fault(ahead + part, number, ahead.length());
-    }
-
-    private static void sound(String text, int pieces) {
-        TaleShares x = new TaleShares();
-        T.due(3, text, x, TestHelp.tell(x, text), pieces);
-        T.check(4, text + " fault", x.fault(), 0);
-        T.check(5, text + " where", x.where(), -1);
     }
 
     private static void aNewObject() {
@@ -80,16 +61,16 @@ public final class TerraceTest {
         while (full.length() < 900) {
             full.insert(NURSE.length(), ' ');
         }
-        sound(full.toString(), 2);
+        T.sound(full.toString(), 2);
     }
 
     private static void reading() {
-        sound(TestHelp.BASE, 5);
-        sound("nurse kings 0 sleeps 0;piece a plain", 1);
-        sound("  nurse  kings 004sleeps100 ; piece a begins;piece kings king;follows a kings;"
+        T.sound(TestHelp.BASE, 5);
+        T.sound("nurse kings 0 sleeps 0;piece a plain", 1);
+        T.sound("  nurse  kings 004sleeps100 ; piece a begins;piece kings king;follows a kings;"
                 + "house begins at 99 from 0 to 23;heard begins a;silent begins;mixed a , kings,a  ", 2);
-        sound(NURSE + "piece abcdefgh begins;piece abcdefgi ends;piece abcdefg king", 3);
-        sound(NURSE + "house h at 0 from 23 to 23;piece a ends;heard h a", 1);
+        T.sound(NURSE + "piece abcdefgh begins;piece abcdefgi ends;piece abcdefg king", 3);
+        T.sound(NURSE + "house h at 0 from 23 to 23;piece a ends;heard h a", 1);
         TaleShares x = new TaleShares();
         TestHelp.feed(x, PIECES + "and more");
         T.due(3, "only the first bytes", x, x.terrace(PIECES.length() - 1), 2);
@@ -126,109 +107,109 @@ public final class TerraceTest {
     }
 
     private static void forms() {
-        faultAt("", "odd", 1);
-        faultAt("", "kings 1", 1);
-        faultAt("  ", "5", 1);
-        faultAt("", ";", 1);
-        faultAt("", ",", 1);
-        faultAt("", "Nurse", 1);
-        faultAt("nurse", "\tkings", 1);
-        faultAt("nurse ", "king 1", 1);
-        faultAt("nurse kings ", "sleeps", 1);
-        faultAt("nurse kings ", "0001 sleeps 5", 1);
-        faultAt("nurse kings 1 ", "sleep 5", 1);
-        faultAt("nurse kings 1 ", "; sleeps 5", 1);
-        faultAt(NURSE, "piecea begins", 1);
-        faultAt(NURSE, ";piece a begins", 1);
-        faultAt(NURSE + "piece ", "abcdefghi begins", 1);
-        faultAt(NURSE + "piece ", "7 begins", 1);
-        faultAt(NURSE + "piece a ", "begin", 1);
-        faultAt(NURSE + "piece a ", "piece", 1);
-        faultAt(NURSE + "piece a ", "plains", 1);
-        faultAt(NURSE + "piece a king", "-", 1);
-        faultAt(NURSE + "piece a king", (char) 233 + "", 1);
-        faultAt(NURSE + "piece a king", (char) 0 + "", 1);
-        faultAt(NURSE + "piece a king ", "king", 1);
-        faultAt(NURSE + "piece a king ", ", piece b king", 1);
+        T.faultAt("", "odd", 1);
+        T.faultAt("", "kings 1", 1);
+        T.faultAt("  ", "5", 1);
+        T.faultAt("", ";", 1);
+        T.faultAt("", ",", 1);
+        T.faultAt("", "Nurse", 1);
+        T.faultAt("nurse", "\tkings", 1);
+        T.faultAt("nurse ", "king 1", 1);
+        T.faultAt("nurse kings ", "sleeps", 1);
+        T.faultAt("nurse kings ", "0001 sleeps 5", 1);
+        T.faultAt("nurse kings 1 ", "sleep 5", 1);
+        T.faultAt("nurse kings 1 ", "; sleeps 5", 1);
+        T.faultAt(NURSE, "piecea begins", 1);
+        T.faultAt(NURSE, ";piece a begins", 1);
+        T.faultAt(NURSE + "piece ", "abcdefghi begins", 1);
+        T.faultAt(NURSE + "piece ", "7 begins", 1);
+        T.faultAt(NURSE + "piece a ", "begin", 1);
+        T.faultAt(NURSE + "piece a ", "piece", 1);
+        T.faultAt(NURSE + "piece a ", "plains", 1);
+        T.faultAt(NURSE + "piece a king", "-", 1);
+        T.faultAt(NURSE + "piece a king", (char) 233 + "", 1);
+        T.faultAt(NURSE + "piece a king", (char) 0 + "", 1);
+        T.faultAt(NURSE + "piece a king ", "king", 1);
+        T.faultAt(NURSE + "piece a king ", ", piece b king", 1);
         for (String word : "nurse piece follows house heard silent mixed".split(" ")) {
-            faultAt(NURSE + "piece ", word + " begins", 1);
-            faultAt(NURSE + "house ", word + " at 5", 1);
-            faultAt(PIECES + "follows ", word, 1);
-            faultAt(PIECES + "follows a ", word, 1);
-            faultAt(HOUSE + "heard ", word, 1);
-            faultAt(HOUSE + "heard h ", word, 1);
-            faultAt(HOUSE + "silent ", word, 1);
-            faultAt(HOUSE + "mixed a,", word, 1);
+            T.faultAt(NURSE + "piece ", word + " begins", 1);
+            T.faultAt(NURSE + "house ", word + " at 5", 1);
+            T.faultAt(PIECES + "follows ", word, 1);
+            T.faultAt(PIECES + "follows a ", word, 1);
+            T.faultAt(HOUSE + "heard ", word, 1);
+            T.faultAt(HOUSE + "heard h ", word, 1);
+            T.faultAt(HOUSE + "silent ", word, 1);
+            T.faultAt(HOUSE + "mixed a,", word, 1);
         }
-        faultAt(PIECES + "house h ", "in 5", 1);
-        faultAt(PIECES + "house h at ", "x", 1);
-        faultAt(PIECES + "house h at 5 ", "to 5", 1);
-        faultAt(PIECES + "house h at 5 from 5 ", "at 5", 1);
-        faultAt(PIECES + "house h at 5 from 5 to ", "1000", 1);
-        faultAt(PIECES + "follows a b ", "a", 1);
-        faultAt(HOUSE + "silent h", ",h", 1);
-        faultAt(HOUSE + "mixed ", ",a", 1);
-        faultAt(HOUSE + "mixed a ", "b", 1);
-        faultAt(HOUSE + "mixed a, ", ",b", 1);
+        T.faultAt(PIECES + "house h ", "in 5", 1);
+        T.faultAt(PIECES + "house h at ", "x", 1);
+        T.faultAt(PIECES + "house h at 5 ", "to 5", 1);
+        T.faultAt(PIECES + "house h at 5 from 5 ", "at 5", 1);
+        T.faultAt(PIECES + "house h at 5 from 5 to ", "1000", 1);
+        T.faultAt(PIECES + "follows a b ", "a", 1);
+        T.faultAt(HOUSE + "silent h", ",h", 1);
+        T.faultAt(HOUSE + "mixed ", ",a", 1);
+        T.faultAt(HOUSE + "mixed a ", "b", 1);
+        T.faultAt(HOUSE + "mixed a, ", ",b", 1);
     }
 
     private static void endings() {
-        fault("", 1, 0);
-        fault("     ", 1, 5);
-        fault("nurse", 1, 5);
-        fault("nurse kings 1 sleeps  ", 1, 22);
+        T.fault("", 1, 0);
+        T.fault("     ", 1, 5);
+        T.fault("nurse", 1, 5);
+        T.fault("nurse kings 1 sleeps  ", 1, 22);
         for (String text : new String[] {NURSE, NURSE + "piece", NURSE + "piece a", PIECES,
             PIECES + "follows", PIECES + "follows a", PIECES + "house", PIECES + "house g at 5 from",
             PIECES + "house g at 5 from 6 to", HOUSE + "heard", HOUSE + "heard h", HOUSE + "silent",
             HOUSE + "mixed", HOUSE + "mixed a,"}) {
-            fault(text, 1, text.length());
+            T.fault(text, 1, text.length());
         }
     }
 
     private static void names() {
-        faultAt(PIECES + "follows ", "c b", 2);
-        faultAt(PIECES + "follows a ", "c", 2);
-        faultAt(HOUSE + "follows ", "h a", 2);
-        faultAt(HOUSE + "follows a ", "h", 2);
-        faultAt(HOUSE + "follows a ", "abcdefgh", 2);
-        faultAt(HOUSE + "heard ", "g a", 2);
-        faultAt(HOUSE + "heard ", "a a", 2);
-        faultAt(HOUSE + "heard h ", "h", 2);
-        faultAt(HOUSE + "heard h ", "aa", 2);
-        faultAt(HOUSE + "silent ", "a", 2);
-        faultAt(HOUSE + "silent ", "hh", 2);
-        faultAt(HOUSE + "mixed ", "h", 2);
-        faultAt(HOUSE + "mixed a,b,", "c", 2);
-        faultAt(HOUSE + "mixed a,a,a,a,a,a,", "c", 2);
-        faultAt(HOUSE + "follows ", "kings a", 2);
-        faultAt(NURSE + "follows ", "a b;piece a begins;piece b ends", 2);
+        T.faultAt(PIECES + "follows ", "c b", 2);
+        T.faultAt(PIECES + "follows a ", "c", 2);
+        T.faultAt(HOUSE + "follows ", "h a", 2);
+        T.faultAt(HOUSE + "follows a ", "h", 2);
+        T.faultAt(HOUSE + "follows a ", "abcdefgh", 2);
+        T.faultAt(HOUSE + "heard ", "g a", 2);
+        T.faultAt(HOUSE + "heard ", "a a", 2);
+        T.faultAt(HOUSE + "heard h ", "h", 2);
+        T.faultAt(HOUSE + "heard h ", "aa", 2);
+        T.faultAt(HOUSE + "silent ", "a", 2);
+        T.faultAt(HOUSE + "silent ", "hh", 2);
+        T.faultAt(HOUSE + "mixed ", "h", 2);
+        T.faultAt(HOUSE + "mixed a,b,", "c", 2);
+        T.faultAt(HOUSE + "mixed a,a,a,a,a,a,", "c", 2);
+        T.faultAt(HOUSE + "follows ", "kings a", 2);
+        T.faultAt(NURSE + "follows ", "a b;piece a begins;piece b ends", 2);
     }
 
     private static void repeats() {
-        faultAt(HOUSE + "piece ", "a begins", 3);
-        faultAt(HOUSE + "piece ", "h begins", 3);
-        faultAt(HOUSE + "house ", "h at 5 from 3 to 4", 3);
-        faultAt(HOUSE + "house ", "b at 5 from 3 to 4", 3);
-        faultAt(HOUSE + "follows a ", "a", 3);
-        faultAt(HOUSE + "follows a b;follows a ", "b", 3);
-        sound(HOUSE + "follows a b;follows b a", 2);
-        faultAt(HOUSE + "heard h b;heard h a;heard h ", "b", 3);
-        faultAt(HOUSE + "silent h;silent ", "h", 3);
-        faultAt(HOUSE, "nurse kings 1 sleeps 5", 3);
-        faultAt(NURSE, "nurse", 3);
-        faultAt(HOUSE + "mixed a;", "mixed b", 3);
+        T.faultAt(HOUSE + "piece ", "a begins", 3);
+        T.faultAt(HOUSE + "piece ", "h begins", 3);
+        T.faultAt(HOUSE + "house ", "h at 5 from 3 to 4", 3);
+        T.faultAt(HOUSE + "house ", "b at 5 from 3 to 4", 3);
+        T.faultAt(HOUSE + "follows a ", "a", 3);
+        T.faultAt(HOUSE + "follows a b;follows a ", "b", 3);
+        T.sound(HOUSE + "follows a b;follows b a", 2);
+        T.faultAt(HOUSE + "heard h b;heard h a;heard h ", "b", 3);
+        T.faultAt(HOUSE + "silent h;silent ", "h", 3);
+        T.faultAt(HOUSE, "nurse kings 1 sleeps 5", 3);
+        T.faultAt(NURSE, "nurse", 3);
+        T.faultAt(HOUSE + "mixed a;", "mixed b", 3);
     }
 
     private static void bounds() {
-        faultAt("nurse kings ", "5 sleeps 5", 4);
-        faultAt("nurse kings 4 sleeps ", "101", 4);
-        faultAt(PIECES + "house h at ", "100 from 3 to 4", 4);
-        faultAt(PIECES + "house h at 5 from ", "24 to 24", 4);
-        faultAt(PIECES + "house h at 5 from 23 to ", "24", 4);
-        faultAt(PIECES + "house h at 5 from 5 to ", "4", 4);
-        faultAt(PIECES + "house h at 5 from 0 to ", "999", 4);
-        sound("nurse kings 4 sleeps 100;piece a begins;house h at 99 from 0 to 23", 1);
-        sound(PIECES + "house h at 0 from 23 to 23", 2);
+        T.faultAt("nurse kings ", "5 sleeps 5", 4);
+        T.faultAt("nurse kings 4 sleeps ", "101", 4);
+        T.faultAt(PIECES + "house h at ", "100 from 3 to 4", 4);
+        T.faultAt(PIECES + "house h at 5 from ", "24 to 24", 4);
+        T.faultAt(PIECES + "house h at 5 from 23 to ", "24", 4);
+        T.faultAt(PIECES + "house h at 5 from 5 to ", "4", 4);
+        T.faultAt(PIECES + "house h at 5 from 0 to ", "999", 4);
+        T.sound("nurse kings 4 sleeps 100;piece a begins;house h at 99 from 0 to 23", 1);
+        T.sound(PIECES + "house h at 0 from 23 to 23", 2);
     }
 
     private static String lines(String line, int many) {
@@ -241,12 +222,12 @@ public final class TerraceTest {
 
     private static void many() {
         String eight = NURSE + lines("piece # plain", 8);
-        sound(eight.substring(0, eight.length() - 1), 8);
-        faultAt(eight, "piece z plain", 5);
-        faultAt(eight, "piece", 5);
+        T.sound(eight.substring(0, eight.length() - 1), 8);
+        T.faultAt(eight, "piece z plain", 5);
+        T.faultAt(eight, "piece", 5);
         String five = PIECES + lines("house # at 1 from 1 to 1", 5);
-        sound(five.substring(0, five.length() - 1), 2);
-        faultAt(five, "house z at 1 from 1 to 1", 5);
+        T.sound(five.substring(0, five.length() - 1), 2);
+        T.faultAt(five, "house z at 1 from 1 to 1", 5);
         String pairs = "";
         int told = 0;
         for (char first = 'p'; first < 'x' && told < 14; first++) {
@@ -257,42 +238,42 @@ public final class TerraceTest {
                 }
             }
         }
-        sound(eight + pairs + "house h at 0 from 0 to 0", 8);
-        faultAt(eight + pairs, "follows w p", 5);
-        faultAt(eight + pairs, "follows", 5);
+        T.sound(eight + pairs + "house h at 0 from 0 to 0", 8);
+        T.faultAt(eight + pairs, "follows w p", 5);
+        T.faultAt(eight + pairs, "follows", 5);
         String heard = eight + "house g at 0 from 0 to 0;house h at 0 from 0 to 0;"
                 + lines("heard g #", 7) + lines("heard h #", 7);
-        sound(heard.substring(0, heard.length() - 1), 8);
-        faultAt(heard, "heard h w", 5);
-        faultAt(heard, "heard", 5);
-        sound(HOUSE + "mixed a,b,a,b,a,b", 2);
-        faultAt(HOUSE + "mixed a,a,a,a,a,a,", "a", 5);
-        faultAt(HOUSE + "mixed a,a,a,a,a,a,", "b,b", 5);
-        faultAt(HOUSE + "mixed a,a,a,a,a,a,", "nurse", 1);
-        faultAt(HOUSE + "mixed a,a,a,a,a,a,", ",", 1);
+        T.sound(heard.substring(0, heard.length() - 1), 8);
+        T.faultAt(heard, "heard h w", 5);
+        T.faultAt(heard, "heard", 5);
+        T.sound(HOUSE + "mixed a,b,a,b,a,b", 2);
+        T.faultAt(HOUSE + "mixed a,a,a,a,a,a,", "a", 5);
+        T.faultAt(HOUSE + "mixed a,a,a,a,a,a,", "b,b", 5);
+        T.faultAt(HOUSE + "mixed a,a,a,a,a,a,", "nurse", 1);
+        T.faultAt(HOUSE + "mixed a,a,a,a,a,a,", ",", 1);
     }
 
     private static void lacks() {
-        faultAt(" ", "piece a begins", 6);
-        faultAt("", "follows a b", 6);
-        faultAt("", "house h at 5 from 3 to 4", 6);
-        faultAt("", "heard h a", 6);
-        faultAt("", "silent h", 6);
-        faultAt("", "mixed a", 6);
-        faultAt("", "mixed", 6);
-        faultAt("", "piece a begins;nurse kings 1 sleeps 5", 6);
-        fault("nurse kings 1 sleeps 5", 6, 22);
-        fault("nurse kings 1 sleeps 5   ", 6, 25);
+        T.faultAt(" ", "piece a begins", 6);
+        T.faultAt("", "follows a b", 6);
+        T.faultAt("", "house h at 5 from 3 to 4", 6);
+        T.faultAt("", "heard h a", 6);
+        T.faultAt("", "silent h", 6);
+        T.faultAt("", "mixed a", 6);
+        T.faultAt("", "mixed", 6);
+        T.faultAt("", "piece a begins;nurse kings 1 sleeps 5", 6);
+        T.fault("nurse kings 1 sleeps 5", 6, 22);
+        T.fault("nurse kings 1 sleeps 5   ", 6, 25);
         String houses = NURSE + "house h at 5 from 3 to 4;silent h";
-        fault(houses, 6, houses.length());
+        T.fault(houses, 6, houses.length());
     }
 
     private static void theLeftmost() {
-        faultAt(NURSE + "house h at ", "100 from 24 to ?;nurse", 4);
-        faultAt(PIECES + "follows ", "c c;piece a begins", 2);
-        faultAt(PIECES, "?;follows c c", 1);
-        faultAt(HOUSE + "mixed a;", "mixed ?", 3);
-        faultAt("", "mixed a;odd", 6);
+        T.faultAt(NURSE + "house h at ", "100 from 24 to ?;nurse", 4);
+        T.faultAt(PIECES + "follows ", "c c;piece a begins", 2);
+        T.faultAt(PIECES, "?;follows c c", 1);
+        T.faultAt(HOUSE + "mixed a;", "mixed ?", 3);
+        T.faultAt("", "mixed a;odd", 6);
     }
 
     private static void aFaultLeavesTheTerrace() {
@@ -320,17 +301,17 @@ public final class TerraceTest {
     private static void wordsLetterByLetter() {
         String text = NURSE + "piece a begins;piece b plain;piece c king;piece d ends;follows a b;"
                 + "house h at 5 from 3 to 4;heard h a;silent h;mixed a";
-        sound(text, 4);
+        T.sound(text, 4);
         java.util.regex.Matcher words = java.util.regex.Pattern.compile("[a-z]{2,}").matcher(text);
         while (words.find()) {
             String ahead = text.substring(0, words.start());
             String word = words.group();
             String behind = text.substring(words.end());
             for (int i = 0; i < word.length(); i++) {
-                faultAt(ahead, word.substring(0, i) + "q" + word.substring(i + 1) + behind, 1);
-                faultAt(ahead, word.substring(0, i) + word.substring(i + 1) + behind, 1);
+                T.faultAt(ahead, word.substring(0, i) + "q" + word.substring(i + 1) + behind, 1);
+                T.faultAt(ahead, word.substring(0, i) + word.substring(i + 1) + behind, 1);
             }
-            faultAt(ahead, word + "q" + behind, 1);
+            T.faultAt(ahead, word + "q" + behind, 1);
         }
     }
 
