@@ -100,6 +100,44 @@ public final class FaceTest {
         holds("imports", text.split("\\bimport\\b").length == 2
                 && text.contains("import java.util.NoSuchElementException;"));
         holds("one throw", text.split("\\bthrow\\b").length == 2);
+        library(text);
+        lengths(text);
+    }
+
+    /** Rules 4 and 12: which of the library is called, and that only constructors make objects. */
+    private static void library(String text) {
+        Set<String> called = found("\\b(?:Math|Integer|Long|System|Arrays|String|List)\\.\\w+", text);
+        called.removeAll(Set.of("Math.max", "Math.min", "Math.abs", "Integer.bitCount",
+                "System.arraycopy"));
+        holds("of the library only what is listed: " + called, called.isEmpty());
+        Set<String> made = found("(?m)^.*\\bnew\\b.*$", text);
+        made.removeIf(line -> line.matches("    (?:    )?(?:private )?(?:final )?\\w+(?:\\[\\])? \\w+ = new .*;")
+                || line.matches("        \\w+ = new \\w+\\(\\);") || line.contains("throw new"));
+        holds("objects are made by fields and constructors: " + made, made.isEmpty());
+    }
+
+    private static Set<String> found(String pattern, String text) {
+        Set<String> all = new TreeSet<>();
+        java.util.regex.Matcher m = Pattern.compile(pattern).matcher(text);
+        while (m.find()) {
+            all.add(m.group());
+        }
+        return all;
+    }
+
+    /** Rule 11: a method ends some sixty lines behind its head. */
+    private static void lengths(String text) {
+        String[] lines = text.split("\n");
+        for (int i = 0; i < lines.length; i++) {
+            java.util.regex.Matcher head = Pattern.compile("^( {4}| {8})\\w[\\w\\[\\] ]*\\(.*\\{$").matcher(lines[i]);
+            if (head.matches()) {
+                int end = i;
+                while (end < lines.length - 1 && !lines[end].equals(head.group(1) + "}")) {
+                    end++;
+                }
+                holds(lines[i].trim() + " has " + (end - i) + " lines", end - i <= 60);
+            }
+        }
     }
 
     private static void holds(String what, boolean so) {

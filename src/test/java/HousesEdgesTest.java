@@ -137,6 +137,9 @@ public final class HousesEdgesTest {
         T.due(21, "two, the least bits", x, x.askAll(0), 2 + 8);
         x.learn(4, 4);
         T.due(21, "one", x, x.askAll(0), 16);
+        x = houses("a", "b", "e", "", "");
+        T.due(21, "the first house too", x, x.askAll(1), 1 + 4);
+        T.due(21, "the first house too", x, x.askAll(4), 1 + 2 + 4);
         x = houses("c", "a", "b", "e", "");
         T.due(21, "its own c too", x, x.askAll(0), 2 + 8);
         T.says(21, "0 it has; -2 not by all.");
@@ -366,6 +369,10 @@ public final class HousesEdgesTest {
         for (int h = 0; h < 5; h++) {
             T.due(29, "hourOf(" + h + ")", x, x.hourOf(h), hours[h]);
         }
+        x = table("5 from 2 to 2", "9 from 0 to 0", "7 from 1 to 1");
+        T.due(29, "by the only order", x, x.hourOf(0), 2);
+        T.due(29, "by the only order", x, x.hourOf(1), 0);
+        T.due(29, "by the only order", x, x.hourOf(2), 1);
         x = table("5 from 0 to 0", "9 from 0 to 0", "7 from 5 to 6");
         for (int h = 0; h < 3; h++) {
             T.due(29, "there is none", x, x.hourOf(h), -2);

@@ -143,6 +143,19 @@ public final class TalesEdgesTest {
         T.due(9, "c and e KNOW w", x, x.alone(4), 0);
         x.forget(2, 7);
         T.due(9, "e alone KNOWS w", x, x.alone(4), 128);
+        x = TestHelp.of(TestHelp.FULL.replaceAll("heard . .;", ""));
+        for (int h = 0; h < 5; h++) {
+            for (int p = 0; p < 8; p++) {
+                x.learn(h, p);
+            }
+            T.due(9, "house " + h + " alone KNOWS all", x, x.alone(h), 255);
+            x.learn((h + 1) % 5, 0);
+            T.due(9, "another one KNOWS p", x, x.alone(h), 254);
+            x.undo();
+            for (int p = 0; p < 8; p++) {
+                x.undo();
+            }
+        }
         T.says(9, "NONE: 1.");
         for (int wrong : new int[] {-1, 5, 8, MIN, MAX}) {
             T.refused(9, "alone(" + wrong + ")", x, x.alone(wrong), 1);
@@ -278,6 +291,12 @@ public final class TalesEdgesTest {
         T.due(15, "without u: v", x, x.needed(255 - 32), 129 + 64);
         T.due(15, "without q: r", x, x.needed(255 - 2), 129 + 4);
         T.due(15, "one TALE", x, x.needed(1 + 4 + 8 + 32 + 128), 1 + 4 + 8 + 32 + 128);
+        TaleShares z = TestHelp.of("nurse kings 0 sleeps 0;piece a begins;piece b ends;piece c plain;"
+                + "follows a b;follows a c;follows c b");
+        T.due(15, "c isn't in the first", z, z.needed(7), 3);
+        z = TestHelp.of("nurse kings 0 sleeps 0;piece a begins;piece b plain;piece c ends;"
+                + "follows a b;follows a c;follows b c");
+        T.due(15, "b isn't in the last", z, z.needed(7), 5);
         T.due(15, "without w", x, x.needed(127), 0);
         T.due(15, "none of them", x, x.needed(0), 0);
         T.due(15, "a and c", y, y.needed(15), 5);

@@ -297,6 +297,12 @@ public final class TermsEdgesTest {
         T.due(31, "the TALE", x, x.slips(), 0);
         x = mixed("a,d,b");
         T.due(31, "one left out", x, x.slips(), 1);
+        x = mixed("d,a,b");
+        T.due(31, "the first left out", x, x.slips(), 1);
+        x = mixed("d,d,d,d,a,b");
+        T.due(31, "the first four left out", x, x.slips(), 4);
+        x = mixed("a,b,d,d,d,d");
+        T.due(31, "the last four left out", x, x.slips(), 4);
         x = mixed("a");
         T.due(31, "one put in", x, x.slips(), 1);
         x = mixed("a,d");
@@ -388,6 +394,9 @@ public final class TermsEdgesTest {
             x.seed(one[0]);
             T.due(44, "from " + one[0] + " by " + one[1], x, x.evening(1), one[2]);
         }
+        x = by(0, 0, THREE + house);
+        x.evening(1);
+        T.check(44, "three DRAWS for three pieces", x.size(8), 28652);
         // Behind 45438 comes 0, then 74, 5624.
         for (int sleeps = 0; sleeps <= 1; sleeps++) {
             x = by(0, sleeps, THREE + house);

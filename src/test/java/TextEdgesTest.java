@@ -55,6 +55,8 @@ public final class TextEdgesTest {
         T.says(0, "I. THE TEXT of a TERRACE (THE TAPE has 900 bytes;");
         T.sound(filled(900, "piece z ends"), 3);
         T.sound(filled(899, "piece z ends"), 3);
+        T.sound(filled(900, "house h at 5 from 3 to 4"), 2);
+        T.sound(filled(900, "mixed a"), 2);
         T.fault(filled(900, "piece z ends?"), 1, 899);
         T.fault(filled(900, "piece z ends;"), 1, 900);
         T.sound(TestHelp.FULL, 8);
@@ -81,6 +83,13 @@ public final class TextEdgesTest {
         T.sound(NURSE + "piece abcdefgh begins;piece zzzzzzzz ends", 2);
         T.sound(NURSE + "piece abcdefgh begins;piece abcdefgi ends;piece bbcdefgh king", 3);
         T.sound(NURSE + "piece abcdefgh begins;piece abcdefg ends;piece bcdefgh king", 3);
+        for (char letter = 'a'; letter <= 'z'; letter++) {
+            StringBuilder text = new StringBuilder(NURSE);
+            for (int many = 1; many <= 8; many++) {
+                text.append("piece ").append(("" + letter).repeat(many)).append(" king;");
+            }
+            T.sound(withoutLast(text.toString()), 8);
+        }
         T.faultAt(NURSE + "piece ", "abcdefghi begins", 1);
         T.faultAt(NURSE + "piece ", "abcdefghabcdefgh begins", 1);
         T.faultAt(NURSE + "piece abcdefgh ", "i begins", 1);
@@ -314,15 +323,25 @@ public final class TextEdgesTest {
         T.faultAt("", "\u0000", 1);
         T.faultAt("  ", "\u00ff", 1);
         T.says(0, "or TOKEN with which no TERRACE goes on");
-        String text = NURSE + "piece a begins;house h at 5 from 3 to 4;heard h a;silent h;mixed a , a";
-        T.sound(text, 1);
-        int last = 0;
-        for (int at = text.indexOf(' '); at >= 0; at = text.indexOf(' ', at + 1)) {
-            // A "," fits at no TOKEN of this text but its own.
-            if (text.charAt(last) != ',') {
-                T.faultAt(text.substring(0, last), "," + text.substring(at), 1);
+        String text = "nurse kings 1 sleeps 5 ; piece a begins ; piece b ends ; follows a b ; house h at 5"
+                + " from 3 to 4 ; heard h a ; silent h ; mixed a , a";
+        T.sound(text, 2);
+        String names = " a b h ";
+        int at = 0;
+        for (String token : text.split(" ")) {
+            boolean name = names.contains(" " + token + " ");
+            boolean whole = Character.isDigit(token.charAt(0));
+            String rest = text.substring(at + token.length());
+            for (String other : new String[] {";", ",", "7", "qqq", "nurse"}) {
+                // A ";" may stand for the "," of the mixed row: the FAULT is the next TOKEN then.
+                boolean fits = token.equals(other) || whole && other.equals("7")
+                        || name && other.equals("qqq") || token.equals(",") && other.equals(";")
+                        || other.equals("nurse") && isHead(token);
+                if (!fits) {
+                    T.faultAt(text.substring(0, at), other + rest, 1);
+                }
             }
-            last = at + 1;
+            at += token.length() + 1;
         }
         T.says(0, "(the end: its place).");
         for (String part : new String[] {"", "nurse", "nurse kings", "nurse kings 1", "nurse kings 1 sleeps",
@@ -333,6 +352,10 @@ public final class TextEdgesTest {
             T.fault(part, 1, part.length());
             T.fault(part + "   ", 1, part.length() + 3);
         }
+    }
+
+    private static boolean isHead(String word) {
+        return java.util.Arrays.asList(HEADS).contains(word);
     }
 
     private static void untoldAndAgain() {
@@ -457,6 +480,12 @@ public final class TextEdgesTest {
         T.refused(3, "it is empty then", x, x.terrace(1), 2);
         T.due(3, "another", x, TestHelp.tell(x, NURSE + "piece q king"), 1);
         T.due(3, "from now on", x, x.piece(0, 0), 2);
+        TestHelp.feed(x, PIECES + "house h at 5 from 3 to 45");
+        T.due(3, "cut in a WHOLE", x, x.terrace(PIECES.length() + 24), 2);
+        T.due(3, "to", x, x.house(0, 2), 4);
+        TestHelp.feed(x, PIECES + "mixed aa");
+        T.due(3, "cut in a WORD", x, x.terrace(PIECES.length() + 7), 2);
+        nothingOfAnother();
         T.says(3, "(houses KNOW what they heard, SEED 0; nothing to undo, no IMAGES):");
         T.due(3, "a text", x, TestHelp.tell(x, TestHelp.BASE), 5);
         x.seed(65536);
@@ -477,6 +506,45 @@ public final class TextEdgesTest {
             String text = withoutLast(NURSE + lines("piece # king", 'a', many));
             T.due(3, text, x, TestHelp.tell(x, text), many);
         }
+    }
+
+    /** What stood ahead of a TERRACE, more of all, shows in no answer of it. */
+    private static void nothingOfAnother() {
+        TaleShares x = TestHelp.of(TestHelp.FULL.replaceAll("silent .;", ""));
+        String few = "nurse kings 0 sleeps 0;piece a begins;piece b ends;piece c plain;piece d plain;"
+                + "piece e plain;piece f plain;piece g plain;piece h ends";
+        T.due(3, "no follows", x, TestHelp.tell(x, few + ";mixed a,b"), 8);
+        T.due(3, "tales", x, x.tales(255), 0);
+        T.due(3, "longest", x, x.longest(255), -2);
+        T.due(3, "used", x, x.used(255), 0);
+        T.due(3, "isTale(1234568)", x, x.isTale(1234568), 0);
+        T.due(3, "slips", x, x.slips(), -2);
+        T.due(3, "meanings", x, x.meanings(), 0);
+        T.refused(3, "walks", x, x.walks(), 6);
+        T.due(3, "one TALE", x, TestHelp.tell(x, few + ";follows a b;house p at 1 from 1 to 1;"
+                + "house q at 9 from 2 to 2;heard p a;mixed a"), 8);
+        T.due(3, "tales", x, x.tales(255), 1);
+        T.due(3, "longest", x, x.longest(255), 2);
+        T.due(3, "used", x, x.used(255), 3);
+        T.due(3, "needed", x, x.needed(255), 3);
+        T.due(3, "isTale(1234568)", x, x.isTale(1234568), 0);
+        T.due(3, "isTale(12)", x, x.isTale(12), 1);
+        T.due(3, "meanings", x, x.meanings(), 1);
+        T.due(3, "orders", x, x.orders(), 1);
+        T.due(3, "walks", x, x.walks(), 8);
+        T.due(3, "soonest", x, x.soonest(), 1);
+        T.due(3, "meets", x, x.meets(0, 0), 1);
+        T.due(3, "no timetable", x, TestHelp.tell(x, few + ";house p at 1 from 1 to 1;"
+                + "house q at 9 from 1 to 1;mixed a"), 8);
+        T.due(3, "orders", x, x.orders(), 0);
+        T.due(3, "walks", x, x.walks(), -2);
+        T.due(3, "meanings", x, x.meanings(), 0);
+        x = TestHelp.of(few);
+        T.due(3, "two houses behind none", x, TestHelp.tell(x, few + ";house p at 1 from 1 to 1;"
+                + "house q at 9 from 2 to 2;heard p a"), 8);
+        T.due(3, "soonest", x, x.soonest(), 1);
+        T.due(3, "meets", x, x.meets(0, 0), 1);
+        T.due(3, "meets", x, x.meets(0, 1), 0);
     }
 
     private static void terraceRefused() {
