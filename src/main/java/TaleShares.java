@@ -1151,9 +1151,10 @@ public final class TaleShares {
     /** All TALES of all pieces, in their order; those of some pieces are those with no other. */
     private static final class Tales {
         /**
-         * A TALE is told by which piece follows at each of its pieces, so there are no more than
-         * the product of how many may follow each; numbers whose sum is the 14 that can be told
-         * have no greater product than 3 * 3 * 3 * 3 * 2.
+         * A TALE is told by its first two pieces and by which piece follows each one between, so
+         * there are no more than the product of how many follows lead away from those that begin
+         * and, for each that stands between, how many lead away from it; numbers whose sum is the
+         * 14 that can be told have no greater product than 3 * 3 * 3 * 3 * 2.
          */
         private static final int MOST_TALES = 162;
 

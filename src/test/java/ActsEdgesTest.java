@@ -135,6 +135,9 @@ public final class ActsEdgesTest {
         T.due(44, "she sleeps at once", x, x.evening(4), 0);
         T.check(44, "SEED: one DRAW", x.size(8), 74);
         T.check(44, "an ACT", x.size(9), 1);
+        TaleShares y = TestHelp.of(TestHelp.FULL.replace("sleeps 100", "sleeps 0"));
+        T.due(44, "a silent house hears", y, y.evening(4), 7);
+        T.due(44, "KNOWS", y, y.house(4, 3), 255 - 64);
         T.says(44, "NONE: 1; 6 (there is no TALE).");
         for (int wrong : new int[] {-1, 5, 6, MIN, MAX}) {
             T.refused(44, "evening(" + wrong + ")", x, x.evening(wrong), 1);

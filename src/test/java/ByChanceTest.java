@@ -28,16 +28,27 @@ public final class ByChanceTest {
         Random random = new Random(8);
         int withTales = 0;
         for (int run = 0; run < 400; run++) {
-            RandomTerraceHelp told = new RandomTerraceHelp(random);
-            String text = RandomTerraceHelp.text(told, random);
-            if (text.length() <= 900) {
-                ByChanceTest test = new ByChanceTest(told, text, random);
-                withTales += test.tales.isEmpty() ? 0 : 1;
-                test.all();
-            }
+            withTales += talesOn(new RandomTerraceHelp(random), random) > 0 ? 1 : 0;
         }
         T.check(10, "terraces with TALES are met often", withTales > 100 ? 1 : 0, 1);
+        for (int run = 0; run < 20; run++) {
+            int many = talesOn(RandomTerraceHelp.withMostTales(random), random);
+            T.check(10, "as many TALES as can be", many, 40);
+            talesOn(RandomTerraceHelp.withLongestTale(random), random);
+        }
         T.end();
+    }
+
+    /** Asks all of this terrace; how many TALES it has. */
+    private static int talesOn(RandomTerraceHelp told, Random random) {
+        String text = RandomTerraceHelp.text(told, random);
+        if (text.length() > 900) {
+            // No TAPE has room for it: the next one may be shorter.
+            return 0;
+        }
+        ByChanceTest test = new ByChanceTest(told, text, random);
+        test.all();
+        return test.tales.size();
     }
 
     private ByChanceTest(RandomTerraceHelp told, String text, Random random) {

@@ -57,9 +57,17 @@ public final class ChanceEdgesTest {
         for (int i = 0; i < 3; i++) {
             T.due(32, "meant(" + i + ")", x, x.meant(i), tale[i]);
         }
-        TaleShares eight = by(0, "piece a begins;piece b plain;piece c plain;piece d plain;piece e plain;"
-                + "piece f plain;piece g plain;piece h ends;follows a b;follows b c;follows c d;"
-                + "follows d e;follows e f;follows f g;follows g h;mixed h,h,h,h,h,h");
+        for (String row : new String[] {"a,b,c,d,e,f", "b,c,d,e,f,g", "c,d,e,f,g,h", "a,b,c,f,g,h"}) {
+            x = eight(row);
+            T.due(31, "two of eight put in", x, x.slips(), 2);
+            T.due(32, "the eighth", x, x.meant(7), 7);
+        }
+        x = eight("a,h");
+        T.due(31, "six of eight put in", x, x.slips(), 6);
+        x = eight("a");
+        T.due(31, "seven of eight put in", x, x.slips(), 7);
+        x = by(0, THREE + ";mixed a,c,b");
+        TaleShares eight = eight("h,h,h,h,h,h");
         T.due(32, "the eighth", eight, eight.meant(7), 7);
         T.due(31, "one stays, five are put in place, two put in", eight, eight.slips(), 7);
         T.says(32, "NONE: 1 (no TERRACE; i, too; there is none); 6.");
@@ -76,6 +84,13 @@ public final class ChanceEdgesTest {
         T.refused(32, "none is mixed", x, x.meant(0), 6);
         x = new TaleShares();
         T.refused(32, "no TERRACE", x, x.meant(0), 1);
+    }
+
+    /** One TALE, of all eight pieces. */
+    private static TaleShares eight(String mixed) {
+        return by(0, "piece a begins;piece b plain;piece c plain;piece d plain;piece e plain;"
+                + "piece f plain;piece g plain;piece h ends;follows a b;follows b c;follows c d;"
+                + "follows d e;follows e f;follows f g;follows g h;mixed " + mixed);
     }
 
     private static void meanings() {
@@ -284,6 +299,9 @@ public final class ChanceEdgesTest {
                 T.due(39, n + " evenings, house " + h, x, x.evenings(h, 7, n), h < n ? 3 : 0);
             }
         }
+        TaleShares y = by(0, TWO + lines(2) + ";silent g;silent h");
+        T.due(39, "a silent house hears", y, y.evenings(1, 7, 2), 3);
+        T.due(40, "silent houses hear", y, y.allSense(7, 2), 2);
         x.learn(4, 1);
         T.due(39, "from NOW", x, x.evenings(4, 7, 4), 2);
         T.check(39, "SEED stays", x.size(8), 0);

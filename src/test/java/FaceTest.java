@@ -30,6 +30,7 @@ public final class FaceTest {
         face();
         names(TaleShares.class, publicNames());
         source();
+        document();
         T.end();
     }
 
@@ -69,6 +70,50 @@ public final class FaceTest {
             names(inside, publicNames());
         }
         holds("at most twelve classes", TaleShares.class.getDeclaredClasses().length < 12);
+    }
+
+    /** The document's own face, call by call, and what it says to stand ahead of some calls. */
+    private static void document() throws Exception {
+        Path doc = Path.of("../shared/DOC.md");
+        if (!Files.exists(doc)) {
+            System.out.println("there is no " + doc + ": the face was compared with FACE alone");
+            return;
+        }
+        String text = Files.readString(doc);
+        String source = Files.readString(Path.of("src/main/java/TaleShares.java"));
+        String face = text.substring(text.indexOf("```java"), text.indexOf("## Terms"));
+        holds("the face in its order", headsIn(source, "\\{").equals(headsIn(face, ";")));
+        T.check(1, "calls of the face", headsIn(face, ";").size(), FACE.length + 1);
+        java.util.regex.Matcher m = Pattern.compile(
+                "Ahead of the calls (.*?) the interface says: (---- .*?)\\.\n").matcher(text);
+        int groups = 0;
+        while (m.find()) {
+            String calls = m.group(1).replaceAll("[`,]", "");
+            int from = source.indexOf("// " + m.group(2) + "\n");
+            int to = source.indexOf("// ----", from + 1);
+            holds(m.group(2) + " stands ahead of " + calls, from >= 0 && to > from
+                    && String.join(" ", namesIn(source.substring(from, to))).equals(calls));
+            groups++;
+        }
+        T.check(1, "groups of calls", groups, 12);
+    }
+
+    /** Public constructors and methods, as they are written. */
+    private static java.util.List<String> headsIn(String text, String end) {
+        java.util.List<String> heads = new java.util.ArrayList<>();
+        java.util.regex.Matcher m = Pattern.compile("(?m)^    public ([\\w ]+\\(.*?) ?" + end + "$").matcher(text);
+        while (m.find()) {
+            heads.add(m.group(1));
+        }
+        return heads;
+    }
+
+    private static java.util.List<String> namesIn(String part) {
+        java.util.List<String> names = new java.util.ArrayList<>();
+        for (String head : headsIn(part, "\\{")) {
+            names.add(head.substring(0, head.indexOf('(')).replaceAll(".* ", ""));
+        }
+        return names;
     }
 
     private static void names(Class<?> type, Set<String> taken) {

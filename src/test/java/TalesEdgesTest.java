@@ -7,6 +7,14 @@ public final class TalesEdgesTest {
     private static final String EIGHT = "nurse kings 0 sleeps 0;piece a begins;piece b plain;"
             + "piece c plain;piece d plain;piece e plain;piece f plain;piece g plain;piece h ends;"
             + "follows a b;follows b c;follows c d;follows d e;follows e f;follows f g;follows g h";
+    /**
+     * The most TALES that a search found, 40: of e on 4 (2 behind f, 2 at once), of f on 2, of c on 4
+     * and 2 and, by d, 4; of d on 4 and, by c, 6; so 20 for each that begins.
+     */
+    private static final String MOST_TALES = "nurse kings 0 sleeps 0;piece a begins;piece b begins;"
+            + "piece c plain;piece d plain;piece e plain;piece f plain;piece g ends;piece h ends;"
+            + "follows a c;follows a d;follows b c;follows b d;follows c d;follows c e;follows c f;"
+            + "follows d c;follows d e;follows e f;follows e g;follows e h;follows f g;follows f h";
     private static final String NO_HOUSE = "nurse kings 0 sleeps 0;piece a begins";
 
     public static void main(String[] args) {
@@ -176,6 +184,11 @@ public final class TalesEdgesTest {
         T.due(10, "p r s u w alone", x, x.tales(1 + 4 + 8 + 32 + 128), 1);
         T.due(10, "without w", x, x.tales(127), 0);
         T.due(10, "none of them", x, x.tales(0), 0);
+        x = TestHelp.of(MOST_TALES);
+        T.due(10, "as many as can be", x, x.tales(255), 40);
+        T.due(10, "without a", x, x.tales(254), 20);
+        T.due(10, "without h", x, x.tales(127), 20);
+        T.due(10, "without c: d e alone", x, x.tales(255 - 4), 8);
         x = TestHelp.of(EIGHT);
         T.due(10, "all eight", x, x.tales(255), 1);
         for (int p = 0; p < 8; p++) {
@@ -256,7 +269,20 @@ public final class TalesEdgesTest {
             T.due(13, "taleAt(255, 17, " + i + ")", x, x.taleAt(255, 17, i), last[i]);
             T.due(13, "the first of few", x, x.taleAt(1 + 4 + 16 + 64 + 128, 0, i), last[i]);
         }
+        TaleShares most = TestHelp.of(MOST_TALES);
+        int[][] rows = {{0, 2, 3, 4, 5, 6}, {0, 3, 4, 7}, {1, 2, 3, 4, 5, 6}, {1, 3, 4, 7}};
+        int[] numbers = {0, 19, 20, 39};
+        for (int k = 0; k < rows.length; k++) {
+            int number = numbers[k];
+            for (int i = 0; i < rows[k].length; i++) {
+                T.due(13, "taleAt(255, " + number + ", " + i + ")", most, most.taleAt(255, number, i),
+                        rows[k][i]);
+            }
+        }
+        T.due(17, "the last one", most, most.isTale(2458), 1);
         T.says(13, "NONE: 1 (i, k, too).");
+        T.refused(13, "taleAt(255, 39, 4)", most, most.taleAt(255, 39, 4), 1);
+        T.refused(13, "taleAt(255, 40, 0)", most, most.taleAt(255, 40, 0), 1);
         for (int wrong : new int[] {-1, 18, 19, MIN, MAX}) {
             T.refused(13, "taleAt(255, " + wrong + ", 0)", x, x.taleAt(255, wrong, 0), 1);
         }

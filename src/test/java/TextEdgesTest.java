@@ -89,6 +89,7 @@ public final class TextEdgesTest {
                 text.append("piece ").append(("" + letter).repeat(many)).append(" king;");
             }
             T.sound(withoutLast(text.toString()), 8);
+            longNames("" + letter);
         }
         T.faultAt(NURSE + "piece ", "abcdefghi begins", 1);
         T.faultAt(NURSE + "piece ", "abcdefghabcdefgh begins", 1);
@@ -97,6 +98,22 @@ public final class TextEdgesTest {
             T.faultAt(NURSE + "piece a", sign + " begins", 1);
             T.faultAt(NURSE + "piece ", sign + "a begins", 1);
         }
+    }
+
+    /** NAMES of eight letters are told, used and told again by all their letters. */
+    private static void longNames(String letter) {
+        String name = letter.repeat(8);
+        String other = letter.equals("k") ? "l" : "k";
+        String pieces = NURSE + "piece " + name + " begins;piece b ends;";
+        T.sound(pieces + "follows " + name + " b;follows b " + name + ";mixed " + name, 2);
+        T.faultAt(pieces + "piece ", name + " ends", 3);
+        T.faultAt(pieces + "mixed ", other + name.substring(1), 2);
+        T.faultAt(pieces + "mixed ", name.substring(1) + other, 2);
+        String houses = PIECES + "house " + name + " at 0 from 0 to 0;";
+        T.sound(houses + "heard " + name + " a;silent " + name, 2);
+        T.faultAt(houses + "house ", name + " at 0 from 0 to 0", 3);
+        T.faultAt(houses + "silent ", other + name.substring(1), 2);
+        T.faultAt(houses + "silent ", name.substring(1) + other, 2);
     }
 
     private static void wholes() {
