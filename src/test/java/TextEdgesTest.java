@@ -90,6 +90,11 @@ public final class TextEdgesTest {
             }
             T.sound(withoutLast(text.toString()), 8);
             longNames("" + letter);
+            if (letter != 'a') {
+                // Two letters each: NAMES counted too closely as numbers would be one.
+                T.sound(NURSE + "piece a" + letter + " begins;piece ba ends;mixed ba", 2);
+                T.faultAt(NURSE + "piece a" + letter + " begins;mixed ", "ba", 2);
+            }
         }
         T.faultAt(NURSE + "piece ", "abcdefghi begins", 1);
         T.faultAt(NURSE + "piece ", "abcdefghabcdefgh begins", 1);
